@@ -29,8 +29,7 @@ public final class TwistedRow {
         sources = new int[MAX_MOVES][MAX_PLACES];
         input = new char[MAX_INPUT];
         places = FIRST_PLACES;
-        graph = new Graph(FACTORIALS[FIRST_PLACES]);
-        graph.setPlaces(FIRST_PLACES);
+        graph = new Graph(FIRST_PLACES);
         setSolved(tiles, FIRST_PLACES);
     }
 
@@ -46,7 +45,7 @@ public final class TwistedRow {
         allowed = 0;
         setSolved(tiles, places);
         if (graph.room < FACTORIALS[places]) {
-            graph = new Graph(FACTORIALS[places]);
+            graph = new Graph(places);
         }
         graph.setPlaces(places);
         return previous;
@@ -648,8 +647,8 @@ public final class TwistedRow {
         int places;
         int size;
 
-        Graph(int room) {
-            this.room = room;
+        Graph(int mostPlaces) {
+            room = FACTORIALS[mostPlaces];
             ends = new int[MAX_MOVES][room];
             ways = new long[room];
             spots = new int[MAX_PLACES];
@@ -657,6 +656,7 @@ public final class TwistedRow {
             solving = new Search(room);
             others = new Search(room);
             route = new Search(room);
+            setPlaces(mostPlaces);
         }
 
         void setPlaces(int places) {

@@ -12,6 +12,7 @@ public final class Model {
     private int allowed = 0;
     private String input = "";
     private final Map<String, Map<String, Integer>> known = new HashMap<>();
+    private final Map<String, Set<String>> groups = new HashMap<>();
 
     private static void need(boolean holds, RuntimeException otherwise) {
         if (!holds) {
@@ -246,7 +247,7 @@ public final class Model {
 
     /** All arrangements to which words of the moves take the solved row. */
     private Set<String> members(int mask) {
-        return reached(solved(), mask);
+        return groups.computeIfAbsent(places() + " " + moves + " " + mask, key -> reached(solved(), mask));
     }
 
     private Set<String> reached(String start, int mask) {
