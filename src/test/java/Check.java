@@ -33,6 +33,10 @@ final class Check {
         due(what + " leaves the digest", before, row::digest);
     }
 
+    static int soFar() {
+        return checked;
+    }
+
     static void finish() {
         System.out.println(checked + " answers looked at, " + wrong + " not as due");
         if (wrong != 0) {

@@ -147,7 +147,7 @@ public final class GroupTest {
     }
 
     /** All shortest words from some tiles to the solved row, where each of two turns can be made in so many ways. */
-    private static BigInteger waysToSolve(String tiles, String[] turns, int[] ways) {
+    static BigInteger waysToSolve(String tiles, String[] turns, int[] ways) {
         Map<String, BigInteger> layer = new HashMap<>();
         Map<String, BigInteger> before = new HashMap<>();
         layer.put(tiles, BigInteger.ONE);

@@ -97,8 +97,8 @@ public final class StateTest {
             () -> Rows.loaded(8, "10234567;02134567;01324567;01243567;01235467;01234657").meanLength() + 3.5);
     }
 
-    /** The hash as the document tells it, of what the other calls answer. */
-    private static long digestOf(TwistedRow row, String input) {
+    /** What is hashed, in the document's order, as the other calls answer it. */
+    static List<Long> valuesOf(TwistedRow row, String input) {
         List<Long> values = new ArrayList<>();
         for (int what = 0; what <= 4; what++) {
             values.add((long) row.count(what));
@@ -130,8 +130,12 @@ public final class StateTest {
         for (char code : input.toCharArray()) {
             values.add((long) code);
         }
+        return values;
+    }
+
+    private static long digestOf(TwistedRow row, String input) {
         long hash = 2011L;
-        for (long value : values) {
+        for (long value : valuesOf(row, input)) {
             hash = 31L * hash + value;
         }
         return hash;
