@@ -68,6 +68,8 @@ final class GroupSentences extends Sentences {
             number("as many as places, 8", 8, 8, "", 1);
             number("one, of 8", 1, 8, "12345670", 1);
             number("two pairs and two that stay", 4, 6, "103245", 1);
+            number("two that alternate", 2, 4, "2301", 1);
+            number("three that alternate, and one that stays", 4, 7, "3450126", 1);
             number("two turns that share no place", 2, 6, "120345;012453", 1);
             number("two turns that share one place", 2, 6, "120345;013425", 1);
             number("joined from behind to the front", 1, 8, "01234576;01234657;01235467;01243567;01324567;12034567", 1);
@@ -94,7 +96,10 @@ final class GroupSentences extends Sentences {
             number("an odd turn besides an even one", 3, 5, "12034;01243", 3);
             due("the odd one is forbidden", 3, () -> allowing(5, "12034;01243", 0b0010).group(3));
             due("one odd move is enough", 3, () -> allowing(5, "12034;01243", 0b1001).group(3));
-            due("of both parities by one move", 2, () -> allowing(4, "1230", 2).group(3));
+            due("of both parities by the first move", 2, () -> allowing(4, "1230", 1).group(3));
+            due("of both parities by its inverse", 2, () -> allowing(4, "1230", 2).group(3));
+            due("the last of six turns is odd", 1, () -> allowing(5, "01234;01234;01234;01234;01234;01243", 1 << 11).group(3));
+            due("the last of six turns is even", 3, () -> allowing(5, "10234;10234;10234;10234;10234;12034", 3 << 10).group(3));
         });
     }
 

@@ -57,7 +57,8 @@ final class RowSentences extends Sentences {
         promise(2, "without turns.", () -> {
             for (int places = 3; places <= 8; places++) {
                 TwistedRow row = Rows.crowded(places);
-                due("the group before", true, () -> row.group(0) > 1);
+                row.allow(4095);
+                due("the group before", true, () -> row.group(0) > 2 && row.ifForbidden(0, 0) > 2);
                 row.begin(places);
                 due("the number", 0, () -> row.count(1));
                 due("the allowed moves", 0, () -> row.count(2));
@@ -69,6 +70,7 @@ final class RowSentences extends Sentences {
                 }
                 due("no room for more", STATE, () -> row.addTurn(2, 0, 1));
                 due("the new group", 2, () -> row.group(0));
+                due("the new group without a move", 2, () -> row.ifForbidden(0, 0));
             }
         });
         promise(2, "The buffer stays.", () -> {
@@ -289,6 +291,16 @@ final class RowSentences extends Sentences {
             row.dropTurn();
             due("forbidden moves stay so, allowed ones too", 0b1111111110, () -> row.count(2));
             due("the first turn stays", first, () -> Rows.sources(row, 0));
+            TwistedRow another = Rows.loaded(5, "12340;10234");
+            due("the group before", 240, () -> another.group(0) + another.ifForbidden(0, 0));
+            // Nothing is asked in between, so that what was found out before would still be there if it were kept.
+            another.dropTurn();
+            another.addTurn(0, 0, 4);
+            due("the group of another one in its place", 20, () -> another.group(0) + another.ifForbidden(0, 0));
+            another.begin(5);
+            another.addTurn(1, 0, 1);
+            another.addTurn(0, 0, 2);
+            due("the group of others behind begin", 12, () -> another.group(0) + another.ifForbidden(0, 0));
             TwistedRow forbidden = Rows.withTurns(5, 2);
             forbidden.allow(0b0110);
             forbidden.dropTurn();
