@@ -13,10 +13,9 @@ import java.util.regex.Pattern;
 final class Document {
     private static final Path FILE = Path.of("../shared/DOC.md");
 
-    /** What stands in the sections below but says nothing that a test could look at: headings, lists of names. */
+    /** What says nothing that a test could look at: headings, and the marks round the face. */
     private static final Pattern NO_SENTENCE = Pattern.compile("Rows and moves\\.\n|Solving\\.\n|Input text\\.\n"
-        + "|Solving by a subgroup\\.\n|Exceptions\\. |The constants: |Ahead of the calls [^\n]*\n"
-        + "|(?m)^`[^`]*\\([^`]*\\)[^`]*`: |^Row puzzles [^\n]*");
+        + "|Solving by a subgroup\\.\n|Exceptions\\. |The constants: |```java\n");
 
     private final Map<String, String> texts = new LinkedHashMap<>();
     private final Map<String, boolean[]> quoted = new LinkedHashMap<>();
@@ -26,9 +25,7 @@ final class Document {
             for (String section : Files.readString(FILE).split("(?m)^## ")) {
                 int heading = section.indexOf('\n');
                 String name = section.substring(0, Math.max(0, heading)).split(":")[0];
-                if (name.matches("What it is|Terms|Promise \\d+")) {
-                    addSection(name, section.substring(heading).trim() + "\n");
-                }
+                addSection(name, name.startsWith("# ") ? section : section.substring(heading).trim() + "\n");
             }
         } catch (IOException broken) {
             throw new UncheckedIOException(broken);
@@ -59,6 +56,10 @@ final class Document {
         }
         mark(section, at, at + words.length());
         return true;
+    }
+
+    String text(String section) {
+        return texts.getOrDefault(section, "");
     }
 
     int sections() {
